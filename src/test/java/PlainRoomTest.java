@@ -1,0 +1,176 @@
+import java.util.Random;
+
+/**
+ * Runs of edits, right and wrong ones, on the class and on the plain room: after each, every question
+ * must have the same answer in both. The seeds are fixed, so every run is the same each time.
+ */
+public final class PlainRoomTest {
+    private static final int RUNS = 600;
+    private static final int EDITS = 45;
+
+    private final Random random;
+    private final int latest;
+    private final ProjectionRoom room = new ProjectionRoom();
+    private final PlainRoom plain = new PlainRoom();
+    private final StringBuilder story = new StringBuilder();
+    private int answers = 0;
+    private boolean same = true;
+
+    private PlainRoomTest(int seed) {
+        random = new Random(seed);
+        // Crowded days have losses, wide ones are smooth, late ones come near the last minute.
+        latest = new int[] {30, 200, 900, 1439}[seed % 4];
+    }
+
+    public static void main(String[] args) {
+        long answers = 0;
+        for (int seed = 0; seed < RUNS; seed++) {
+            PlainRoomTest run = new PlainRoomTest(seed);
+            if (!run.runsAlike()) {
+                System.out.println("seed " + seed + ": " + run.story);
+                System.exit(1);
+            }
+            answers += run.answers;
+        }
+        System.out.println(answers + " answers are the same in both rooms");
+    }
+
+    private boolean runsAlike() {
+        for (int i = 0; i < EDITS && same; i++) {
+            edit();
+            if (same) {
+                questions();
+            }
+        }
+        return same;
+    }
+
+    private void due(String call, int got, int want) {
+        answers++;
+        if (got != want) {
+            same = false;
+            story.append("\n  ").append(call).append(" answered ").append(got).append(", due is ").append(want);
+        }
+    }
+
+    private void tell(String call, int got, int want) {
+        story.append(call).append(" = ").append(got).append("; ");
+        due(call, got, want);
+    }
+
+    // Now and then a number just outside its range.
+    private int pick(int least, int most) {
+        return random.nextInt(40) == 0 ? (random.nextBoolean() ? least - 1 : most + 1)
+                : least + random.nextInt(most - least + 1);
+    }
+
+    private int pickStart() {
+        int base = latest == 1439 ? 1350 : 0;
+        return random.nextInt(40) == 0 ? pick(0, 1439) : base + random.nextInt(latest - base + 1);
+    }
+
+    private int shows() {
+        int count = 0;
+        while (count < 6 && plain.delayOf(count) >= 0) {
+            count++;
+        }
+        return count;
+    }
+
+    private int pickShow() {
+        return pick(0, Math.max(0, shows() - 1));
+    }
+
+    private void edit() {
+        switch (random.nextInt(20)) {
+            case 0, 1, 2 -> {
+                int film = pick(0, 3), length = pick(1, 30), aspect = pick(0, 2);
+                tell("addReel(" + film + ", " + length + ", " + aspect + ")",
+                        room.addReel(film, length, aspect), plain.addReel(film, length, aspect));
+            }
+            case 3 -> {
+                int film = pick(0, 3);
+                tell("removeReels(" + film + ")", room.removeReels(film), plain.removeReels(film));
+            }
+            case 4 -> {
+                int film = pick(0, 3), house = pick(0, 1);
+                tell("setHome(" + film + ", " + house + ")", room.setHome(film, house), plain.setHome(film, house));
+            }
+            case 5, 6 -> {
+                int house = pick(0, 1);
+                tell("addMachine(" + house + ")", room.addMachine(house), plain.addMachine(house));
+            }
+            case 7 -> {
+                int machine = pick(0, 4);
+                tell("removeMachine(" + machine + ")", room.removeMachine(machine), plain.removeMachine(machine));
+            }
+            case 8 -> {
+                int carriers = pick(1, 3);
+                tell("setCarriers(" + carriers + ")", room.setCarriers(carriers), plain.setCarriers(carriers));
+            }
+            case 9, 10 -> {
+                int duration = pick(0, 3);
+                int minutes = pick(duration == 3 ? 1 : 0, new int[] {10, 10, 15, 30}[duration & 3]);
+                tell("setDuration(" + duration + ", " + minutes + ")",
+                        room.setDuration(duration, minutes), plain.setDuration(duration, minutes));
+            }
+            case 11, 12, 13 -> {
+                int house = pick(0, 1), film = pick(0, 3), start = pickStart();
+                tell("addShow(" + house + ", " + film + ", " + start + ")",
+                        room.addShow(house, film, start), plain.addShow(house, film, start));
+            }
+            case 14 -> {
+                int show = pickShow();
+                tell("removeShow(" + show + ")", room.removeShow(show), plain.removeShow(show));
+            }
+            case 15 -> {
+                int show = pickShow(), start = pickStart();
+                tell("moveShow(" + show + ", " + start + ")", room.moveShow(show, start), plain.moveShow(show, start));
+            }
+            case 16, 17 -> {
+                int show = pickShow(), reel = pick(0, 3), repair = pick(1, 60);
+                tell("addBreak(" + show + ", " + reel + ", " + repair + ")",
+                        room.addBreak(show, reel, repair), plain.addBreak(show, reel, repair));
+            }
+            case 18 -> {
+                if (random.nextInt(3) == 0) {
+                    tell("clearBreaks()", room.clearBreaks(), plain.clearBreaks());
+                }
+            }
+            default -> {
+                int times = 1 + random.nextInt(6);
+                for (int i = 0; i < times; i++) {
+                    tell("undo()", room.undo(), plain.undo());
+                }
+            }
+        }
+    }
+
+    private void questions() {
+        for (int film = -1; film <= 4; film++) {
+            due("filmLength(" + film + ")", room.filmLength(film), plain.filmLength(film));
+        }
+        for (int machine = -1; machine <= 5; machine++) {
+            due("houseOf(" + machine + ")", room.houseOf(machine), plain.houseOf(machine));
+            due("machineTime(" + machine + ")", room.machineTime(machine), plain.machineTime(machine));
+        }
+        for (int show = -1; show <= 6; show++) {
+            for (int reel = -1; reel <= 6; reel++) {
+                due("startOf(" + show + ", " + reel + ")", room.startOf(show, reel), plain.startOf(show, reel));
+                due("machineOf(" + show + ", " + reel + ")", room.machineOf(show, reel), plain.machineOf(show, reel));
+            }
+            due("endOf(" + show + ")", room.endOf(show), plain.endOf(show));
+            due("delayOf(" + show + ")", room.delayOf(show), plain.delayOf(show));
+            due("gapOf(" + show + ")", room.gapOf(show), plain.gapOf(show));
+            due("removalGain(" + show + ")", room.removalGain(show), plain.removalGain(show));
+        }
+        due("loss()", room.loss(), plain.loss());
+        due("carriedReels()", room.carriedReels(), plain.carriedReels());
+        due("plateChanges()", room.plateChanges(), plain.plateChanges());
+        due("bestHomes()", room.bestHomes(), plain.bestHomes());
+        due("missingMachines(0)", room.missingMachines(0), plain.missingMachines(0));
+        due("missingMachines(1)", room.missingMachines(1), plain.missingMachines(1));
+        int show = pickShow();
+        due("leastShift(" + show + ")", room.leastShift(show), plain.leastShift(show));
+    }
+}
