@@ -54,6 +54,12 @@ public final class BetterPlansTest {
             addShow(0, 0, 3) = 1; addShow(0, 0, 10) = 2; addBreak(1, 0, 5) = 1; addBreak(0, 0, 60) = 2; loss() = 15
             removalGain(0) = 0; removalGain(1) = 15; removalGain(2) = 15; addBreak(1, 0, 1) = 3; loss() = 16
             """);
+        script.run("promise 26: a show may do good to the others", """
+            addReel(0, 12, 0) = 1; addReel(0, 9, 0) = 2; addReel(1, 5, 0) = 1
+            addShow(0, 0, 57) = 0; addShow(1, 0, 26) = 1; addShow(0, 1, 59) = 2; loss() = 9
+            removalGain(1) = -4   // without it, the second reel takes the other machine too early for show 2
+            removeShow(1) = 2; loss() = 13; delayOf(1) = 13
+            """);
         script.run("promise 26: a show that does not take place", """
             removeMachine(2) = 2; addReel(0, 10, 0) = 1; addShow(1, 0, 3) = 0; addShow(0, 0, 1) = 1
             loss() = 1002; removalGain(0) = 1000; removalGain(1) = 2

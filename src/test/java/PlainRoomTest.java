@@ -1,10 +1,16 @@
+import java.util.ArrayList;
+import java.util.Collections;
+import java.util.List;
 import java.util.Random;
+import java.util.function.IntSupplier;
 
 /**
  * Runs of edits, right and wrong ones, on the class and on the plain room: after each, every question
  * must have the same answer in both. The seeds are fixed, so every run is the same each time.
  */
 public final class PlainRoomTest {
+    private record Question(String call, IntSupplier got, IntSupplier want) {}
+
     private static final int RUNS = 600;
     private static final int EDITS = 45;
 
@@ -146,31 +152,38 @@ public final class PlainRoomTest {
         }
     }
 
+    // In any order, so that no answer leans on what an earlier question left behind.
     private void questions() {
-        for (int film = -1; film <= 4; film++) {
-            due("filmLength(" + film + ")", room.filmLength(film), plain.filmLength(film));
-        }
-        for (int machine = -1; machine <= 5; machine++) {
-            due("houseOf(" + machine + ")", room.houseOf(machine), plain.houseOf(machine));
-            due("machineTime(" + machine + ")", room.machineTime(machine), plain.machineTime(machine));
-        }
-        for (int show = -1; show <= 6; show++) {
+        List<Question> all = new ArrayList<>();
+        for (int i = -1; i <= 6; i++) {
+            int n = i;
+            all.add(new Question("filmLength(" + n + ")", () -> room.filmLength(n), () -> plain.filmLength(n)));
+            all.add(new Question("houseOf(" + n + ")", () -> room.houseOf(n), () -> plain.houseOf(n)));
+            all.add(new Question("machineTime(" + n + ")", () -> room.machineTime(n), () -> plain.machineTime(n)));
+            all.add(new Question("endOf(" + n + ")", () -> room.endOf(n), () -> plain.endOf(n)));
+            all.add(new Question("delayOf(" + n + ")", () -> room.delayOf(n), () -> plain.delayOf(n)));
+            all.add(new Question("gapOf(" + n + ")", () -> room.gapOf(n), () -> plain.gapOf(n)));
+            all.add(new Question("removalGain(" + n + ")", () -> room.removalGain(n), () -> plain.removalGain(n)));
             for (int reel = -1; reel <= 6; reel++) {
-                due("startOf(" + show + ", " + reel + ")", room.startOf(show, reel), plain.startOf(show, reel));
-                due("machineOf(" + show + ", " + reel + ")", room.machineOf(show, reel), plain.machineOf(show, reel));
+                int r = reel;
+                all.add(new Question("startOf(" + n + ", " + r + ")", () -> room.startOf(n, r), () -> plain.startOf(n, r)));
+                all.add(new Question("machineOf(" + n + ", " + r + ")",
+                        () -> room.machineOf(n, r), () -> plain.machineOf(n, r)));
             }
-            due("endOf(" + show + ")", room.endOf(show), plain.endOf(show));
-            due("delayOf(" + show + ")", room.delayOf(show), plain.delayOf(show));
-            due("gapOf(" + show + ")", room.gapOf(show), plain.gapOf(show));
-            due("removalGain(" + show + ")", room.removalGain(show), plain.removalGain(show));
         }
-        due("loss()", room.loss(), plain.loss());
-        due("carriedReels()", room.carriedReels(), plain.carriedReels());
-        due("plateChanges()", room.plateChanges(), plain.plateChanges());
-        due("bestHomes()", room.bestHomes(), plain.bestHomes());
-        due("missingMachines(0)", room.missingMachines(0), plain.missingMachines(0));
-        due("missingMachines(1)", room.missingMachines(1), plain.missingMachines(1));
+        all.add(new Question("loss()", room::loss, plain::loss));
+        all.add(new Question("carriedReels()", room::carriedReels, plain::carriedReels));
+        all.add(new Question("plateChanges()", room::plateChanges, plain::plateChanges));
+        all.add(new Question("bestHomes()", room::bestHomes, plain::bestHomes));
+        for (int i = -1; i <= 2; i++) {
+            int n = i;
+            all.add(new Question("missingMachines(" + n + ")", () -> room.missingMachines(n), () -> plain.missingMachines(n)));
+        }
         int show = pickShow();
-        due("leastShift(" + show + ")", room.leastShift(show), plain.leastShift(show));
+        all.add(new Question("leastShift(" + show + ")", () -> room.leastShift(show), () -> plain.leastShift(show)));
+        Collections.shuffle(all, random);
+        for (Question question : all) {
+            due(question.call, question.got.getAsInt(), question.want.getAsInt());
+        }
     }
 }

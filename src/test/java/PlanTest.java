@@ -8,6 +8,7 @@ public final class PlanTest {
         carrying(script);
         noMachine(script);
         sums(script);
+        freshAnswers(script);
         wrongArguments(script);
         script.close();
     }
@@ -40,6 +41,12 @@ public final class PlanTest {
             startOf(2, 0) = 34; delayOf(2) = 22; delayOf(1) = 0; loss() = 22
             moveShow(2, 9) = 12; machineOf(2, 0) = 0; machineOf(0, 0) = 1; machineOf(1, 0) = 0
             startOf(2, 0) = 9; startOf(0, 0) = 10; startOf(1, 0) = 17; loss() = 6
+            """);
+        script.run("promise 17: the first one that can start stands between two others", """
+            addMachine(0) = 3; removeMachine(2) = 3
+            addReel(0, 30, 0) = 1; addReel(1, 10, 0) = 1; addReel(2, 20, 0) = 1; addReel(3, 5, 0) = 1
+            addShow(0, 0, 10) = 0; addShow(0, 1, 11) = 1; addShow(0, 2, 12) = 2; addShow(0, 3, 13) = 3
+            machineOf(3, 0) = 1; startOf(3, 0) = 24   // 43 on machine 0, 24 on machine 1, 35 on machine 2
             """);
     }
 
@@ -140,6 +147,8 @@ public final class PlanTest {
             addShow(1, 0, 1) = 2; loss() = 2000
             removeMachine(0) = 1; removeMachine(0) = 0; loss() = 3000; endOf(1) = NOT_FOUND; plateChanges() = 0
             addMachine(1) = 0; loss() = 1075; startOf(0, 0) = 13; startOf(0, 1) = 33
+            delayOf(0) = 13; gapOf(0) = 10; delayOf(2) = 47; gapOf(2) = 5; delayOf(1) = 0
+            removeMachine(0) = 0; delayOf(0) = 0; gapOf(0) = 0; loss() = 3000; machineTime(0) = -1
             """);
     }
 
@@ -157,6 +166,20 @@ public final class PlanTest {
             addShow(1, 0, 400) = 1; machineTime(2) = 30; machineTime(0) = 25
             removeShow(0) = 1; machineTime(0) = 0; machineTime(1) = 0; machineTime(2) = 30
             """);
+    }
+
+    private static void freshAnswers(Script script) {
+        String edits = """
+            addReel(0, 10, 0) = 1; addReel(0, 10, 1) = 2; setHome(1, 1) = 0; addReel(1, 10, 2) = 1
+            addShow(1, 0, 0) = 0; addShow(1, 1, 5) = 1
+            """;
+        String[] questions = {"startOf(0, 1) = 33", "machineOf(0, 1) = 2", "endOf(0) = 43", "delayOf(0) = 13",
+            "gapOf(0) = 10", "loss() = 66", "carriedReels() = 2", "plateChanges() = 2", "machineTime(2) = 30"};
+        for (String question : questions) {
+            script.run("promises 16 to 24: the first question after the edits", edits + question);
+            script.run("promises 16 to 24: a question after one about another day",
+                    edits + "removalGain(0) = 66; missingMachines(1) = -4; leastShift(0) = -4; " + question);
+        }
     }
 
     private static void wrongArguments(Script script) {

@@ -48,6 +48,17 @@ public final class ShowsTest {
             removeShow(0) = 1; endOf(0) = 217; addBreak(0, 0, 2) = 2; endOf(0) = 219
             removeShow(0) = 0; loss() = 0; clearBreaks() = 0
             """);
+        script.run("promise 12: one of six shows goes", """
+            addReel(0, 1, 0) = 1; addReel(1, 2, 0) = 1; addReel(2, 3, 0) = 1; addReel(3, 4, 0) = 1
+            addShow(0, 0, 100) = 0; addShow(1, 1, 200) = 1; addShow(0, 2, 300) = 2
+            addShow(1, 3, 400) = 3; addShow(0, 1, 500) = 4; addShow(1, 0, 600) = 5
+            endOf(0) = 101; endOf(1) = 202; endOf(2) = 303; endOf(3) = 404; endOf(4) = 502; endOf(5) = 601
+            removeShow(1) = 5
+            endOf(0) = 101; endOf(1) = 303; endOf(2) = 404; endOf(3) = 502; endOf(4) = 601; endOf(5) = -1
+            machineOf(0, 0) = 0; machineOf(1, 0) = 0; machineOf(2, 0) = 2; machineOf(3, 0) = 0; machineOf(4, 0) = 2
+            removeShow(4) = 4; endOf(3) = 502; endOf(4) = -1; removeShow(0) = 3
+            endOf(0) = 303; endOf(1) = 404; endOf(2) = 502; endOf(3) = -1
+            """);
         script.run("promise 12: the last show goes, the others stay", """
             addReel(0, 10, 0) = 1; addReel(1, 20, 1) = 1; addShow(0, 0, 3) = 0; addShow(1, 1, 50) = 1
             addBreak(0, 0, 9) = 1; removeShow(1) = 1; endOf(0) = 22; removeReels(1) = 1; removeReels(0) = -2

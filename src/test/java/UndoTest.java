@@ -42,6 +42,11 @@ public final class UndoTest {
             removeReels(0) = 2; addReel(0, 30, 2) = 1; undo() = 4; undo() = 3
             filmLength(0) = 15; addShow(0, 0, 100) = 1; plateChanges() = 1; endOf(1) = 115
             """);
+        script.run("the aspects of the reels come back", """
+            removeMachine(1) = 2; addReel(1, 10, 1) = 1; addReel(0, 10, 1) = 1
+            removeReels(0) = 1; addReel(0, 10, 2) = 1; undo() = 4; undo() = 3
+            addShow(0, 0, 10) = 0; addShow(0, 1, 20) = 1; startOf(1, 0) = 23; plateChanges() = 0
+            """);
         script.run("addMachine, removeMachine", """
             addMachine(1) = 3; removeMachine(0) = 3; houseOf(1) = 1; houseOf(2) = 1
             undo() = 1; houseOf(0) = 0; houseOf(1) = 0; houseOf(2) = 1; houseOf(3) = 1
@@ -66,6 +71,11 @@ public final class UndoTest {
             clearBreaks() = 2; endOf(0) = 110; undo() = 4; endOf(0) = 115; endOf(1) = 216
             removeShow(0) = 1; endOf(0) = 216; undo() = 4; endOf(0) = 115; endOf(1) = 216
             undo() = 3; endOf(1) = 210; undo() = 2; endOf(0) = 110; clearBreaks() = 0
+            """);
+        script.run("the reels and repair times of the breaks come back", """
+            addReel(0, 10, 0) = 1; addReel(0, 10, 0) = 2; addShow(0, 0, 100) = 0; addShow(0, 0, 200) = 1
+            addBreak(0, 0, 5) = 1; addBreak(1, 1, 6) = 2; removeShow(0) = 1; startOf(0, 1) = 210; endOf(0) = 226
+            undo() = 4; startOf(0, 1) = 115; endOf(0) = 125; startOf(1, 1) = 210; endOf(1) = 226
             """);
         script.run("edits that change nothing", """
             setHome(0, 0) = 0; setCarriers(1) = 1; setDuration(0, 3) = 3; removeReels(0) = 0; clearBreaks() = 0

@@ -1,0 +1,66 @@
+import java.io.IOException;
+import java.nio.file.Files;
+import java.nio.file.Path;
+import java.util.List;
+import java.util.Set;
+import java.util.regex.Matcher;
+import java.util.regex.Pattern;
+
+/** Rules of LANGUAGE.md that can be seen in the file's text: words that it may not use, and its size. */
+public final class LanguageTest {
+    private static final Path SOURCE = Path.of("src/main/java/ProjectionRoom.java");
+    private static final Set<String> KNOWN_CLASSES =
+            Set.of("ProjectionRoom", "Day", "History", "Plan", "System", "Math");
+    // Stricter than the rules: division, texts and null are allowed behind a test, but the class needs none.
+    private static final List<String> REFUSED = List.of(
+            "\\b(throw|throws|try|catch|finally|synchronized|assert|import|package|protected|native|volatile|transient)\\b",
+            "->", "::", "@", "\\binstanceof\\b", "\\b(equals|hashCode|toString|getClass|random|nanoTime|currentTimeMillis)\\b",
+            "[/%]", "\\b\\w+Exact\\b", "\"", "\\bnull\\b");
+    private static final int MOST_LINES = 60;
+
+    private static int wrong = 0;
+
+    public static void main(String[] args) throws IOException {
+        String text = Files.readString(SOURCE);
+        due("only signs 1 to 127", text.chars().allMatch(c -> c > 0 && c < 128));
+        String code = text.replaceAll("(?s)/\\*.*?\\*/", "").replaceAll("//[^\n]*", "");
+        for (String refused : REFUSED) {
+            Matcher matcher = Pattern.compile(refused).matcher(code);
+            due("nothing like " + refused, !matcher.find());
+        }
+        namesOfClasses(code);
+        lengthsOfMethods(code);
+        System.out.println(wrong == 0 ? "the file keeps to the rules" : "the file breaks rules");
+        if (wrong != 0) {
+            System.exit(1);
+        }
+    }
+
+    private static void due(String what, boolean holds) {
+        if (!holds) {
+            wrong++;
+            System.out.println("not so: " + what);
+        }
+    }
+
+    // A new class has to be named here on purpose: no class of the library slips in.
+    private static void namesOfClasses(String code) {
+        Matcher matcher = Pattern.compile("\\b[A-Z][a-z]\\w*").matcher(code);
+        while (matcher.find()) {
+            due("the class " + matcher.group() + " is known", KNOWN_CLASSES.contains(matcher.group()));
+        }
+    }
+
+    private static void lengthsOfMethods(String code) {
+        Pattern head = Pattern.compile("(?m)^( {4}| {8})(?!if|for|while|switch)(\\w[\\w\\[\\] ]*\\(.*\\) \\{)$");
+        Matcher matcher = head.matcher(code);
+        int methods = 0;
+        while (matcher.find()) {
+            int end = code.indexOf("\n" + matcher.group(1) + "}\n", matcher.start());
+            long lines = code.substring(matcher.start(), end).lines().count();
+            due(matcher.group(2) + " is short: " + lines, lines <= MOST_LINES);
+            methods++;
+        }
+        due("methods are found", methods > 40);
+    }
+}
