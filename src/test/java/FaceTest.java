@@ -24,26 +24,16 @@ public final class FaceTest {
             "INVALID_ARGUMENT", -1, "NOT_POSSIBLE", -2, "CAPACITY_EXCEEDED", -3, "NOT_FOUND", -4,
             "THREADING", 0, "PLATE", 1, "REWINDING", 2, "CARRYING", 3);
 
-    private static int wrong = 0;
+    private static final Dues DUES = new Dues();
 
     public static void main(String[] args) throws ReflectiveOperationException {
-        due("the class is public and final",
+        DUES.due("the class is public and final",
                 ProjectionRoom.class.getModifiers() == (Modifier.PUBLIC | Modifier.FINAL));
         methods();
         constants();
         constructors();
         classesInside();
-        System.out.println(wrong == 0 ? "the face is as due" : "the face is not as due");
-        if (wrong != 0) {
-            System.exit(1);
-        }
-    }
-
-    private static void due(String what, boolean holds) {
-        if (!holds) {
-            wrong++;
-            System.out.println("not so: " + what);
-        }
+        DUES.close("the public face");
     }
 
     private static void methods() {
@@ -53,54 +43,54 @@ public final class FaceTest {
             if (Modifier.isPrivate(method.getModifiers())) {
                 hidden.add(method.getName());
             } else {
-                due(method + " is public, answers an int and is an object's",
+                DUES.due(method + " is public, answers an int and is an object's",
                         method.getModifiers() == Modifier.PUBLIC && method.getReturnType() == int.class);
                 for (Class<?> parameter : method.getParameterTypes()) {
-                    due(method + " takes ints", parameter == int.class);
+                    DUES.due(method + " takes ints", parameter == int.class);
                 }
-                due(method.getName() + " stands once", seen.put(method.getName(), method.getParameterCount()) == null);
+                DUES.due(method.getName() + " stands once", seen.put(method.getName(), method.getParameterCount()) == null);
             }
         }
-        due("the methods are those of the document: " + seen, seen.equals(METHODS));
+        DUES.due("the methods are those of the document: " + seen, seen.equals(METHODS));
         hidden.retainAll(METHODS.keySet());
-        due("no private method bears a public name: " + hidden, hidden.isEmpty());
+        DUES.due("no private method bears a public name: " + hidden, hidden.isEmpty());
     }
 
     private static void constants() throws ReflectiveOperationException {
         Map<String, Integer> seen = new TreeMap<>();
         for (Field field : ProjectionRoom.class.getDeclaredFields()) {
             int modifiers = field.getModifiers();
-            due(field + " is final if it is static", !Modifier.isStatic(modifiers) || Modifier.isFinal(modifiers));
+            DUES.due(field + " is final if it is static", !Modifier.isStatic(modifiers) || Modifier.isFinal(modifiers));
             if (!Modifier.isPrivate(modifiers)) {
-                due(field + " is a public constant",
+                DUES.due(field + " is a public constant",
                         modifiers == (Modifier.PUBLIC | Modifier.STATIC | Modifier.FINAL) && field.getType() == int.class);
                 seen.put(field.getName(), field.getInt(null));
             }
         }
-        due("the constants are those of the document: " + seen, seen.equals(CONSTANTS));
+        DUES.due("the constants are those of the document: " + seen, seen.equals(CONSTANTS));
     }
 
     private static void constructors() {
         Constructor<?>[] all = ProjectionRoom.class.getDeclaredConstructors();
-        due("there is one constructor, public and without arguments", all.length == 1
+        DUES.due("there is one constructor, public and without arguments", all.length == 1
                 && all[0].getParameterCount() == 0 && all[0].getModifiers() == Modifier.PUBLIC);
     }
 
     private static void classesInside() {
         Class<?>[] inside = ProjectionRoom.class.getDeclaredClasses();
-        due("at most twelve classes in the file", inside.length < 12);
+        DUES.due("at most twelve classes in the file", inside.length < 12);
         for (Class<?> one : inside) {
             int modifiers = one.getModifiers();
-            due(one + " is static and not public or protected", Modifier.isStatic(modifiers)
+            DUES.due(one + " is static and not public or protected", Modifier.isStatic(modifiers)
                     && !Modifier.isPublic(modifiers) && !Modifier.isProtected(modifiers));
             int fields = 0;
             for (Field field : one.getDeclaredFields()) {
                 fields += Modifier.isStatic(field.getModifiers()) ? 0 : 1;
             }
-            due(one + " has at most twenty fields: " + fields, fields <= 20);
+            DUES.due(one + " has at most twenty fields: " + fields, fields <= 20);
             for (Method method : one.getDeclaredMethods()) {
-                due(method + " bears no public name", !METHODS.containsKey(method.getName()));
-                due(method + " takes at most seven parameters", method.getParameterCount() <= 7);
+                DUES.due(method + " bears no public name", !METHODS.containsKey(method.getName()));
+                DUES.due(method + " takes at most seven parameters", method.getParameterCount() <= 7);
             }
         }
     }

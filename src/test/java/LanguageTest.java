@@ -18,36 +18,26 @@ public final class LanguageTest {
             "[/%]", "\\b\\w+Exact\\b", "\"", "\\bnull\\b");
     private static final int MOST_LINES = 60;
 
-    private static int wrong = 0;
+    private static final Dues DUES = new Dues();
 
     public static void main(String[] args) throws IOException {
         String text = Files.readString(SOURCE);
-        due("only signs 1 to 127", text.chars().allMatch(c -> c > 0 && c < 128));
+        DUES.due("only signs 1 to 127", text.chars().allMatch(c -> c > 0 && c < 128));
         String code = text.replaceAll("(?s)/\\*.*?\\*/", "").replaceAll("//[^\n]*", "");
         for (String refused : REFUSED) {
             Matcher matcher = Pattern.compile(refused).matcher(code);
-            due("nothing like " + refused, !matcher.find());
+            DUES.due("nothing like " + refused, !matcher.find());
         }
         namesOfClasses(code);
         lengthsOfMethods(code);
-        System.out.println(wrong == 0 ? "the file keeps to the rules" : "the file breaks rules");
-        if (wrong != 0) {
-            System.exit(1);
-        }
-    }
-
-    private static void due(String what, boolean holds) {
-        if (!holds) {
-            wrong++;
-            System.out.println("not so: " + what);
-        }
+        DUES.close("the rules that can be seen in the file");
     }
 
     // A new class has to be named here on purpose: no class of the library slips in.
     private static void namesOfClasses(String code) {
         Matcher matcher = Pattern.compile("\\b[A-Z][a-z]\\w*").matcher(code);
         while (matcher.find()) {
-            due("the class " + matcher.group() + " is known", KNOWN_CLASSES.contains(matcher.group()));
+            DUES.due("the class " + matcher.group() + " is known", KNOWN_CLASSES.contains(matcher.group()));
         }
     }
 
@@ -58,9 +48,9 @@ public final class LanguageTest {
         while (matcher.find()) {
             int end = code.indexOf("\n" + matcher.group(1) + "}\n", matcher.start());
             long lines = code.substring(matcher.start(), end).lines().count();
-            due(matcher.group(2) + " is short: " + lines, lines <= MOST_LINES);
+            DUES.due(matcher.group(2) + " is short: " + lines, lines <= MOST_LINES);
             methods++;
         }
-        due("methods are found", methods > 40);
+        DUES.due("methods are found", methods > 40);
     }
 }

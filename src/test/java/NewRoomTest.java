@@ -2,7 +2,7 @@
 public final class NewRoomTest {
     public static void main(String[] args) {
         Script script = new Script();
-        script.run("a new room holds no films, shows and breaks", """
+        script.run("promise 1: a new room holds no films, shows and breaks", """
             filmLength(0) = 0; filmLength(1) = 0; filmLength(2) = 0; filmLength(3) = 0
             removeShow(0) = -1; startOf(0, 0) = -1; endOf(0) = -1; delayOf(0) = -1; gapOf(0) = -1
             loss() = 0; carriedReels() = 0; plateChanges() = 0
@@ -11,7 +11,7 @@ public final class NewRoomTest {
             undo() = NOT_POSSIBLE
             removeReels(0) = 0; removeReels(1) = 0; removeReels(2) = 0; removeReels(3) = 0; clearBreaks() = 0
             """);
-        script.run("a new room has its machines, its carrier, its homes and its durations", """
+        script.run("promise 1: a new room has its machines, its carrier, its homes and its durations", """
             houseOf(0) = 0; houseOf(1) = 0; houseOf(2) = 1; houseOf(3) = -1
             machineTime(0) = 0; machineTime(1) = 0; machineTime(2) = 0; machineTime(3) = -1
             setCarriers(1) = 1
@@ -19,7 +19,7 @@ public final class NewRoomTest {
             setDuration(THREADING, 0) = 3; setDuration(PLATE, 0) = 2
             setDuration(REWINDING, 0) = 4; setDuration(CARRYING, 1) = 10
             """);
-        script.run("the constants", """
+        script.run("promise 1: the constants", """
             addReel(0, 0, 0) = -1; addShow(0, 0, 0) = -2
             addMachine(0) = 3; addMachine(0) = 4; addMachine(0) = -3
             removeMachine(2) = 4

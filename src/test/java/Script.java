@@ -1,6 +1,9 @@
 import java.lang.reflect.Field;
+import java.lang.reflect.InvocationTargetException;
 import java.lang.reflect.Method;
+import java.util.ArrayList;
 import java.util.HashMap;
+import java.util.List;
 import java.util.Map;
 import java.util.regex.Matcher;
 import java.util.regex.Pattern;
@@ -9,10 +12,11 @@ import java.util.regex.Pattern;
  * Runs of calls written as the document writes its examples: "addReel(0, 10, 0) = 1; loss() = 0;".
  * Every run begins with a new object. Calls are parted by ';' or a new line, '//' begins a remark, and
  * a number may be given by the name of a constant of the class, or as MIN or MAX for the ends of int.
+ * "20 * loss() = 0" is twenty calls, each with this answer.
  */
 final class Script {
     private static final int MOST_CALLS = 512;
-    private static final Pattern CALL = Pattern.compile("(\\w+)\\(([^()]*)\\)\\s*=\\s*(-?\\w+)");
+    private static final Pattern CALL = Pattern.compile("(?:(\\d+) \\* )?(\\w+)\\(([^()]*)\\)\\s*=\\s*(-?\\w+)");
 
     private final Class<?> face;
     private final Map<String, Method> methods = new HashMap<>();
@@ -31,20 +35,29 @@ final class Script {
     }
 
     void run(String title, String text) {
+        for (String answer : wrongAnswers(text)) {
+            wrong++;
+            System.out.println(title + ": " + answer);
+        }
+    }
+
+    /** What a new room answers otherwise than the run says. */
+    List<String> wrongAnswers(String text) {
         Object room = newRoom();
+        List<String> wrongOnes = new ArrayList<>();
         int callsOfRun = 0;
         for (String line : text.split("\n")) {
             for (String piece : line.replaceFirst("//.*", "").split(";")) {
                 if (!piece.isBlank()) {
-                    check(title, room, piece.strip());
-                    callsOfRun++;
+                    callsOfRun += check(room, piece.strip(), wrongOnes);
                 }
             }
         }
         if (callsOfRun == 0 || callsOfRun > MOST_CALLS) {
-            throw new IllegalStateException(title + ": a run of " + callsOfRun + " calls");
+            throw new IllegalStateException("a run of " + callsOfRun + " calls: " + text);
         }
         calls += callsOfRun;
+        return wrongOnes;
     }
 
     void close() {
@@ -54,16 +67,19 @@ final class Script {
         }
     }
 
-    private void check(String title, Object room, String piece) {
+    private int check(Object room, String piece, List<String> wrongOnes) {
         Matcher matcher = CALL.matcher(piece);
         if (!matcher.matches()) {
-            throw new IllegalStateException(title + ": not a call: " + piece);
+            throw new IllegalStateException("not a call: " + piece);
         }
-        Object got = answer(room, matcher.group(1), numbers(matcher.group(2)));
-        if (!got.equals(number(matcher.group(3)))) {
-            wrong++;
-            System.out.println(title + ": " + piece + " was due, the answer was " + got);
+        int times = matcher.group(1) == null ? 1 : Integer.parseInt(matcher.group(1));
+        for (int i = 0; i < times; i++) {
+            Object got = answer(room, matcher.group(2), numbers(matcher.group(3)));
+            if (!got.equals(number(matcher.group(4)))) {
+                wrongOnes.add(piece + " was due, the answer was " + got);
+            }
         }
+        return times;
     }
 
     private Object newRoom() {
@@ -77,6 +93,8 @@ final class Script {
     private Object answer(Object room, String name, Object[] arguments) {
         try {
             return methods.get(name).invoke(room, arguments);
+        } catch (InvocationTargetException e) {
+            return e.getCause();
         } catch (ReflectiveOperationException e) {
             throw new IllegalStateException(name, e);
         }
