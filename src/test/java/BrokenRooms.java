@@ -16,9 +16,12 @@ import javax.tools.SimpleJavaFileObject;
 import javax.tools.StandardJavaFileManager;
 import javax.tools.ToolProvider;
 
-/** Makes the class anew with a change in it, in memory alone. */
+/**
+ * Makes the plain room anew with a change in it, in memory alone. The plain room and not the class: the
+ * class may be written otherwise one day, and what breaks a sentence still stands here.
+ */
 final class BrokenRooms {
-    private static final Path SOURCE = Path.of("src/main/java/ProjectionRoom.java");
+    private static final Path SOURCE = Path.of("src/test/java/PlainRoom.java");
 
     private final JavaCompiler compiler = ToolProvider.getSystemJavaCompiler();
     private final StandardJavaFileManager standard = compiler.getStandardFileManager(null, null, null);
@@ -44,14 +47,14 @@ final class BrokenRooms {
         if (!compiler.getTask(null, classes, null, List.of("-proc:none"), null, texts).call()) {
             throw new IllegalStateException("does not compile: " + change);
         }
-        return new Loader(classes).loadClass("ProjectionRoom");
+        return new Loader(classes).loadClass("PlainRoom");
     }
 
     private static final class Text extends SimpleJavaFileObject {
         private final String text;
 
         Text(String text) {
-            super(URI.create("string:///ProjectionRoom.java"), Kind.SOURCE);
+            super(URI.create("string:///PlainRoom.java"), Kind.SOURCE);
             this.text = text;
         }
 
@@ -88,7 +91,7 @@ final class BrokenRooms {
         }
     }
 
-    // Its parent does not know the class itself, so that the changed one is found.
+    // Its parent does not know the room itself, so that the changed one is found.
     private static final class Loader extends ClassLoader {
         private final Classes classes;
 

@@ -1,8 +1,8 @@
 import java.io.IOException;
 
 /**
- * The tests of the sentences are tried themselves: for each sentence the class is changed so that the
- * sentence is broken, and the sentence's run has to notice it.
+ * The tests of the sentences are tried themselves: for each sentence the plain room is changed so that
+ * the sentence is broken, and the sentence's run has to notice it.
  */
 public final class BrokenSentencesTest {
     public static void main(String[] args) throws IOException, ClassNotFoundException {

@@ -2,8 +2,8 @@ import java.util.regex.Matcher;
 import java.util.regex.Pattern;
 
 /**
- * A change of the class's text that breaks a sentence: within one method, or anywhere if method is empty.
- * The words to be changed must stand there just once, so that it is plain what is broken.
+ * A change of the plain room's text that breaks a sentence: within one method, or anywhere if method is
+ * empty. The words to be changed must stand there just once, so that it is plain what is broken.
  */
 record Change(String method, String from, String to) {
     private static final Pattern FORM = Pattern.compile("(?:(\\w+): )?(.+?) ~>(?: (.*))?");
@@ -22,7 +22,7 @@ record Change(String method, String from, String to) {
         int begin = 0;
         int end = source.length();
         if (!method.isEmpty()) {
-            Matcher head = Pattern.compile("(?m)^( +)(?:\\w[\\w\\[\\] ]* )?" + method + "\\(.*\\) \\{$").matcher(source);
+            Matcher head = Pattern.compile("(?m)^( +)\\w.* " + method + "\\([^;{]*\\) \\{$").matcher(source);
             if (!head.find()) {
                 throw new IllegalStateException("no such method: " + this);
             }

@@ -7,7 +7,7 @@ import java.util.stream.Stream;
 
 /**
  * What holds a sentence of the document: the promises that it is about, a run of calls, and changes of
- * the class that break the sentence, each of which the run has to notice.
+ * the plain room that break the sentence, each of which the run has to notice.
  *
  * The files under src/test/sentences have, line by line: '== ' and a section of the document; '-- ' and a
  * sentence; '@@ ' and the promises that it is about, where the section is none; then the run, as Script

@@ -48,7 +48,7 @@ final class PlainRoom {
             return copy;
         }
 
-        void removeShow(int show) {
+        void dropShow(int show) {
             shows.remove(show);
             breaks.removeIf(b -> b.show == show);
             breaks.replaceAll(b -> b.show > show ? new Break(b.show - 1, b.reel, b.repair) : b);
@@ -131,12 +131,15 @@ final class PlainRoom {
     private static Run on(State s, List<Run> runs, int machine, int show, int reel, Reel piece, int due,
             int arrival, boolean carried) {
         Run before = lastOf(runs.stream().filter(r -> r.machine == machine).toList());
-        boolean plate = before != null
-                && s.films.get(s.shows.get(before.show).film).get(before.reel).aspect != piece.aspect;
+        boolean plate = before != null && aspectOf(s, before) != piece.aspect;
         int y = (before == null ? 0 : before.end) + (plate ? s.durations.get(1) : 0);
         int start = Math.max(due, Math.max(arrival, y) + s.durations.get(0));
         int repairs = s.breaks.stream().filter(b -> b.show == show && b.reel == reel).mapToInt(b -> b.repair).sum();
         return new Run(show, reel, machine, start, start + piece.length + repairs, due, carried, plate);
+    }
+
+    private static int aspectOf(State s, Run run) {
+        return s.films.get(s.shows.get(run.show).film).get(run.reel).aspect;
     }
 
     private static Run lastOf(List<Run> runs) {
@@ -233,7 +236,7 @@ final class PlainRoom {
     int removeShow(int show) {
         if (noShow(show)) return -1;
         edit();
-        state.removeShow(show);
+        state.dropShow(show);
         return state.shows.size();
     }
 
@@ -316,14 +319,13 @@ final class PlainRoom {
     int removalGain(int show) {
         if (noShow(show)) return -1000000;
         State trial = state.copy();
-        trial.removeShow(show);
+        trial.dropShow(show);
         return lossOf(state) - lossOf(trial);
     }
 
     int bestHomes() {
         return IntStream.range(0, 16).boxed().min(Comparator.comparingInt(mask -> {
             State trial = state.copy();
-            trial.homes.replaceAll(home -> 0);
             for (int film = 0; film < 4; film++) {
                 trial.homes.set(film, mask >> film & 1);
             }
@@ -335,7 +337,7 @@ final class PlainRoom {
         if (out(house, 0, 1)) return -1;
         State trial = state.copy();
         while (lossOf(trial) != 0) {
-            if (trial.machines.size() == 5) return -4;
+            if (trial.machines.size() >= 5) return -4;
             trial.machines.add(house);
         }
         return trial.machines.size() - state.machines.size();

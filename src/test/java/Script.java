@@ -1,3 +1,4 @@
+import java.lang.reflect.Constructor;
 import java.lang.reflect.Field;
 import java.lang.reflect.InvocationTargetException;
 import java.lang.reflect.Method;
@@ -30,6 +31,8 @@ final class Script {
     Script(Class<?> face) {
         this.face = face;
         for (Method method : face.getDeclaredMethods()) {
+            // A changed room has another loader, and so another package than this one.
+            method.setAccessible(true);
             methods.put(method.getName(), method);
         }
     }
@@ -84,7 +87,9 @@ final class Script {
 
     private Object newRoom() {
         try {
-            return face.getDeclaredConstructor().newInstance();
+            Constructor<?> constructor = face.getDeclaredConstructor();
+            constructor.setAccessible(true);
+            return constructor.newInstance();
         } catch (ReflectiveOperationException e) {
             throw new IllegalStateException(e);
         }
