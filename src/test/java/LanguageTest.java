@@ -3,7 +3,9 @@ import java.nio.file.Files;
 import java.nio.file.Path;
 import java.util.HashSet;
 import java.util.List;
+import java.util.Map;
 import java.util.Set;
+import java.util.TreeMap;
 import java.util.regex.Matcher;
 import java.util.regex.Pattern;
 
@@ -17,6 +19,7 @@ public final class LanguageTest {
             "->", "::", "@", "\\binstanceof\\b", "\\b(equals|hashCode|toString|getClass|random|nanoTime|currentTimeMillis)\\b",
             "[/%]", "\\b\\w+Exact\\b", "\"", "\\bnull\\b");
     private static final int MOST_LINES = 60;
+    private static final int MOST_DEPTH = 8;
 
     private static final Dues DUES = new Dues();
 
@@ -29,7 +32,9 @@ public final class LanguageTest {
             DUES.due("nothing like " + refused, !matcher.find());
         }
         namesOfClasses(code);
-        lengthsOfMethods(code);
+        Map<String, String> bodies = methods(code);
+        lengthsOfMethods(bodies);
+        depthOfCalls(bodies);
         DUES.close("the rules that can be seen in the file");
     }
 
@@ -43,16 +48,42 @@ public final class LanguageTest {
         }
     }
 
-    private static void lengthsOfMethods(String code) {
-        Pattern head = Pattern.compile("(?m)^( {4}| {8})(?!if|for|while|switch)(\\w[\\w\\[\\] ]*\\(.*\\) \\{)$");
+    private static Map<String, String> methods(String code) {
+        Pattern head = Pattern.compile("(?m)^( {4}| {8})(?! |(?:if|for|while|switch)\\b)(?:[\\w\\[\\] ]+ )?(\\w+)\\(.*\\) \\{$");
         Matcher matcher = head.matcher(code);
-        int methods = 0;
+        Map<String, String> bodies = new TreeMap<>();
         while (matcher.find()) {
             int end = code.indexOf("\n" + matcher.group(1) + "}\n", matcher.start());
-            long lines = code.substring(matcher.start(), end).lines().count();
-            DUES.due(matcher.group(2) + " is short: " + lines, lines <= MOST_LINES);
-            methods++;
+            String before = bodies.put(matcher.group(2), code.substring(matcher.end(), end));
+            DUES.due("one method alone is called " + matcher.group(2), before == null);
         }
-        DUES.due("methods are found", methods > 28);
+        DUES.due("methods are found", bodies.size() > 28);
+        return bodies;
+    }
+
+    private static void lengthsOfMethods(Map<String, String> bodies) {
+        bodies.forEach((name, body) -> {
+            long lines = body.lines().count();
+            DUES.due(name + " is short: " + lines, lines <= MOST_LINES);
+        });
+    }
+
+    // Rule 11, and rule 8 in the plainest way: a method that called itself would go deeper than any bound.
+    private static void depthOfCalls(Map<String, String> bodies) {
+        for (String name : bodies.keySet()) {
+            int depth = depth(bodies, name, 1);
+            DUES.due(name + " goes at most " + MOST_DEPTH + " deep: " + depth, depth <= MOST_DEPTH);
+        }
+    }
+
+    private static int depth(Map<String, String> bodies, String name, int above) {
+        int deepest = above;
+        Matcher call = Pattern.compile("\\b(\\w+)\\(").matcher(bodies.get(name));
+        while (call.find() && deepest <= MOST_DEPTH) {
+            if (bodies.containsKey(call.group(1))) {
+                deepest = Math.max(deepest, depth(bodies, call.group(1), above + 1));
+            }
+        }
+        return deepest;
     }
 }

@@ -16,6 +16,7 @@ public final class PlainRoomTest {
 
     private final Random random;
     private final int latest;
+    private final boolean full;
     private final ProjectionRoom room = new ProjectionRoom();
     private final PlainRoom plain = new PlainRoom();
     private final StringBuilder story = new StringBuilder();
@@ -26,6 +27,8 @@ public final class PlainRoomTest {
         random = new Random(seed);
         // Crowded days have losses, wide ones are smooth, late ones come near the last minute.
         latest = new int[] {30, 200, 900, 1439}[seed % 4];
+        // Only some of them, since the plain room is slow at them.
+        full = seed % 15 == 0;
     }
 
     public static void main(String[] args) {
@@ -42,6 +45,9 @@ public final class PlainRoomTest {
     }
 
     private boolean runsAlike() {
+        if (full) {
+            fillRoom();
+        }
         for (int i = 0; i < EDITS && same; i++) {
             edit();
             if (same) {
@@ -64,10 +70,15 @@ public final class PlainRoomTest {
         due(call, got, want);
     }
 
-    // Now and then a number just outside its range.
+    // Now and then a number just outside its range, or any number at all.
     private int pick(int least, int most) {
-        return random.nextInt(40) == 0 ? (random.nextBoolean() ? least - 1 : most + 1)
-                : least + random.nextInt(most - least + 1);
+        return switch (random.nextInt(120)) {
+            case 0 -> least - 1;
+            case 1 -> most + 1;
+            case 2 -> random.nextInt();
+            case 3 -> random.nextBoolean() ? Integer.MIN_VALUE : Integer.MAX_VALUE;
+            default -> least + random.nextInt(most - least + 1);
+        };
     }
 
     private int pickStart() {
@@ -87,13 +98,40 @@ public final class PlainRoomTest {
         return pick(0, Math.max(0, shows() - 1));
     }
 
+    // Edits by chance seldom come to rooms that hold all they can.
+    private void fillRoom() {
+        for (int i = 0; i < 24; i++) {
+            addReel(i % 4);
+        }
+        for (int i = 0; i < 6; i++) {
+            addShow();
+        }
+        for (int i = 0; i < 8; i++) {
+            addBreak();
+        }
+    }
+
+    private void addReel(int film) {
+        int length = pick(1, 30), aspect = pick(0, 2);
+        tell("addReel(" + film + ", " + length + ", " + aspect + ")",
+                room.addReel(film, length, aspect), plain.addReel(film, length, aspect));
+    }
+
+    private void addShow() {
+        int house = pick(0, 1), film = pick(0, 3), start = pickStart();
+        tell("addShow(" + house + ", " + film + ", " + start + ")",
+                room.addShow(house, film, start), plain.addShow(house, film, start));
+    }
+
+    private void addBreak() {
+        int show = pickShow(), reel = pick(0, 3), repair = pick(1, 60);
+        tell("addBreak(" + show + ", " + reel + ", " + repair + ")",
+                room.addBreak(show, reel, repair), plain.addBreak(show, reel, repair));
+    }
+
     private void edit() {
         switch (random.nextInt(20)) {
-            case 0, 1, 2 -> {
-                int film = pick(0, 3), length = pick(1, 30), aspect = pick(0, 2);
-                tell("addReel(" + film + ", " + length + ", " + aspect + ")",
-                        room.addReel(film, length, aspect), plain.addReel(film, length, aspect));
-            }
+            case 0, 1, 2 -> addReel(pick(0, 3));
             case 3 -> {
                 int film = pick(0, 3);
                 tell("removeReels(" + film + ")", room.removeReels(film), plain.removeReels(film));
@@ -120,11 +158,7 @@ public final class PlainRoomTest {
                 tell("setDuration(" + duration + ", " + minutes + ")",
                         room.setDuration(duration, minutes), plain.setDuration(duration, minutes));
             }
-            case 11, 12, 13 -> {
-                int house = pick(0, 1), film = pick(0, 3), start = pickStart();
-                tell("addShow(" + house + ", " + film + ", " + start + ")",
-                        room.addShow(house, film, start), plain.addShow(house, film, start));
-            }
+            case 11, 12, 13 -> addShow();
             case 14 -> {
                 int show = pickShow();
                 tell("removeShow(" + show + ")", room.removeShow(show), plain.removeShow(show));
@@ -133,11 +167,7 @@ public final class PlainRoomTest {
                 int show = pickShow(), start = pickStart();
                 tell("moveShow(" + show + ", " + start + ")", room.moveShow(show, start), plain.moveShow(show, start));
             }
-            case 16, 17 -> {
-                int show = pickShow(), reel = pick(0, 3), repair = pick(1, 60);
-                tell("addBreak(" + show + ", " + reel + ", " + repair + ")",
-                        room.addBreak(show, reel, repair), plain.addBreak(show, reel, repair));
-            }
+            case 16, 17 -> addBreak();
             case 18 -> {
                 if (random.nextInt(3) == 0) {
                     tell("clearBreaks()", room.clearBreaks(), plain.clearBreaks());
@@ -152,11 +182,15 @@ public final class PlainRoomTest {
         }
     }
 
+    // All that a number of a film, machine, show or reel can be, those just outside, and any number at all.
+    private int[] numbers() {
+        return new int[] {-1, 0, 1, 2, 3, 4, 5, 6, random.nextInt()};
+    }
+
     // In any order, so that no answer leans on what an earlier question left behind.
     private void questions() {
         List<Question> all = new ArrayList<>();
-        for (int i = -1; i <= 6; i++) {
-            int n = i;
+        for (int n : numbers()) {
             all.add(new Question("filmLength(" + n + ")", () -> room.filmLength(n), () -> plain.filmLength(n)));
             all.add(new Question("houseOf(" + n + ")", () -> room.houseOf(n), () -> plain.houseOf(n)));
             all.add(new Question("machineTime(" + n + ")", () -> room.machineTime(n), () -> plain.machineTime(n)));
@@ -164,8 +198,7 @@ public final class PlainRoomTest {
             all.add(new Question("delayOf(" + n + ")", () -> room.delayOf(n), () -> plain.delayOf(n)));
             all.add(new Question("gapOf(" + n + ")", () -> room.gapOf(n), () -> plain.gapOf(n)));
             all.add(new Question("removalGain(" + n + ")", () -> room.removalGain(n), () -> plain.removalGain(n)));
-            for (int reel = -1; reel <= 6; reel++) {
-                int r = reel;
+            for (int r : numbers()) {
                 all.add(new Question("startOf(" + n + ", " + r + ")", () -> room.startOf(n, r), () -> plain.startOf(n, r)));
                 all.add(new Question("machineOf(" + n + ", " + r + ")",
                         () -> room.machineOf(n, r), () -> plain.machineOf(n, r)));
@@ -175,8 +208,7 @@ public final class PlainRoomTest {
         all.add(new Question("carriedReels()", room::carriedReels, plain::carriedReels));
         all.add(new Question("plateChanges()", room::plateChanges, plain::plateChanges));
         all.add(new Question("bestHomes()", room::bestHomes, plain::bestHomes));
-        for (int i = -1; i <= 2; i++) {
-            int n = i;
+        for (int n : new int[] {-1, 0, 1, 2, random.nextInt()}) {
             all.add(new Question("missingMachines(" + n + ")", () -> room.missingMachines(n), () -> plain.missingMachines(n)));
         }
         int show = pickShow();

@@ -1,26 +1,36 @@
 import java.lang.management.ManagementFactory;
 
-/** Rule 12 of LANGUAGE.md: what is made is made with the room, and the calls make no objects. */
+/** Rule 12 of LANGUAGE.md: what is made is made with the room, it is little, and the calls make no objects. */
 public final class ThriftTest {
     private static final int ROUNDS = 200;
     // A round is some 500 calls: one object a call would be 8,000 bytes a round at the least.
-    private static final long MOST_BYTES = ROUNDS * 1000L;
+    private static final long MOST_BYTES_OF_ROUND = 1000;
+    // Some 110 objects with 1,100 fields and elements in all; a run of calls may make many rooms.
+    private static final long MOST_BYTES_OF_ROOM = 10000;
+
+    private static final Dues DUES = new Dues();
 
     public static void main(String[] args) {
-        var threads = (com.sun.management.ThreadMXBean) ManagementFactory.getThreadMXBean();
-        long thread = Thread.currentThread().getId();
         ProjectionRoom room = new ProjectionRoom();
-        callAll(room);
-        long before = threads.getThreadAllocatedBytes(thread);
-        int sum = 0;
+        int sum = callAll(room);
+        long before = bytesMade();
         for (int i = 0; i < ROUNDS; i++) {
             sum += callAll(room);
         }
-        long made = threads.getThreadAllocatedBytes(thread) - before;
-        System.out.println(made + " bytes made in " + ROUNDS + " rounds (" + sum + ")");
-        if (made > MOST_BYTES) {
-            System.exit(1);
+        long ofRound = (bytesMade() - before) / ROUNDS;
+        DUES.due("a round of calls makes next to nothing: " + ofRound, ofRound <= MOST_BYTES_OF_ROUND);
+        before = bytesMade();
+        for (int i = 0; i < ROUNDS; i++) {
+            sum += new ProjectionRoom().addMachine(0);
         }
+        long ofRoom = (bytesMade() - before) / ROUNDS;
+        DUES.due("a room is small: " + ofRoom, ofRoom <= MOST_BYTES_OF_ROOM);
+        DUES.close(ofRound + " bytes for a round of calls, " + ofRoom + " for a room (" + sum + ")");
+    }
+
+    private static long bytesMade() {
+        var threads = (com.sun.management.ThreadMXBean) ManagementFactory.getThreadMXBean();
+        return threads.getThreadAllocatedBytes(Thread.currentThread().getId());
     }
 
     private static int callAll(ProjectionRoom room) {
